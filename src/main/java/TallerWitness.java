@@ -461,6 +461,7 @@ public final class TallerWitness {
         int thisYear;
         int drawState = 1;
         private final int[] growth = new int[MOST_PEOPLE];
+        // letters of its own: in a YEAR nobody is sworn to, so b, j, z, l stay 0 in these
         private final Letters letters = new Letters();
 
         void copyFrom(Valley other) {
@@ -483,7 +484,6 @@ public final class TallerWitness {
             kindOf[p] = kind;
             inch[p] = inches;
             age[p] = years;
-            // after an undo somebody else may have had this number
             heel[p] = 0;
             ownPrice[p] = price;
             living |= 1 << p;
@@ -542,7 +542,6 @@ public final class TallerWitness {
 
         int passYear(Law ruling, int draw) {
             letters.tellTime(thisYear, draw);
-            letters.tellSwornToNobody();
             growOlder();
             growTaller(ruling);
             int dying = whoDies(ruling);
@@ -562,17 +561,16 @@ public final class TallerWitness {
         private void growTaller(Law ruling) {
             // a twin's height hangs on another one's, so all are asked before anybody grows
             for (int p = 0; p < people; p++) {
-                growth[p] = has(living, p) ? growthOf(ruling, p) : 0;
+                growth[p] = 0;
+                if (has(living, p)) {
+                    letters.tellSwearer(this, p);
+                    int more = kindOf[p] == GROWING && age[p] < GROWN_UP ? 1 : 0;
+                    growth[p] = ruling.firstWorth('g', MOST_GROWTH, letters.value) + more;
+                }
             }
             for (int p = 0; p < people; p++) {
                 inch[p] = Math.min(inch[p] + growth[p], MOST_INCHES);
             }
-        }
-
-        private int growthOf(Law ruling, int p) {
-            letters.tellSwearer(this, p);
-            int more = kindOf[p] == GROWING && age[p] < GROWN_UP ? 1 : 0;
-            return ruling.firstWorth('g', MOST_GROWTH, letters.value) + more;
         }
 
         private int whoDies(Law ruling) {
@@ -632,12 +630,6 @@ public final class TallerWitness {
             value[9] = valley.kindOf[p];
         }
 
-        void tellSwornToNobody() {
-            for (int i = 6; i <= 9; i++) {
-                value[i] = 0;
-            }
-        }
-
         void tellTime(int thisYear, int draw) {
             value[10] = thisYear;
             value[11] = draw;
@@ -663,8 +655,6 @@ public final class TallerWitness {
         private final int[] conditionFrom = new int[MOST_CLAUSES];
         private final int[] conditionEnd = new int[MOST_CLAUSES];
         private final int[] stack = new int[STACK];
-        private int held;
-        private boolean refused;
 
         void clear() {
             clauses = 0;
@@ -740,38 +730,38 @@ public final class TallerWitness {
 
         /** REFUSED is 0 for both: a condition that does not hold, a sum that is 0. */
         private int worth(int from, int end, int[] letters) {
-            held = 0;
-            refused = false;
+            int held = 0;
             int at = from;
             // leaps only lead onwards, so no sign is reckoned twice
-            for (int done = 0; done < MOST_TEXT && at >= 0 && at < end && !refused; done++) {
-                at = reckonSign(at, letters);
-            }
-            return refused ? 0 : pop();
-        }
-
-        private int reckonSign(int at, int[] letters) {
-            int sign = signs[at];
-            if (sign == NUMBER) {
-                push(values[at]);
-            } else if (sign == LETTER) {
-                push(letters[values[at]]);
-            } else if (sign == '!') {
-                push(1 - pop());
-            } else if (sign == '|' || sign == '&') {
-                int settled = pop();
-                if ((settled != 0) == (sign == '|')) {
-                    push(settled);
-                    return values[at];
+            for (int done = 0; done < MOST_TEXT && at >= 0 && at < end; done++) {
+                int sign = signs[at];
+                boolean settled = held > 0 && (stack[held - 1] != 0) == (sign == '|');
+                if (sign == NUMBER || sign == LETTER) {
+                    held = Math.min(held + 1, STACK);
+                    stack[held - 1] = sign == NUMBER ? values[at] : letters[values[at]];
+                    at++;
+                } else if (sign == '|' || sign == '&') {
+                    held = settled ? held : Math.max(held - 1, 0);
+                    at = settled ? values[at] : at + 1;
+                } else if (sign == '!' && held > 0) {
+                    stack[held - 1] = 1 - stack[held - 1];
+                    at++;
+                } else if (held < 2 || isRefused(sign, stack[held - 1])) {
+                    return 0;
+                } else {
+                    held--;
+                    stack[held - 1] = combined(sign, stack[held - 1], stack[held]);
+                    at++;
                 }
-            } else {
-                int right = pop();
-                push(combined(sign, pop(), right));
             }
-            return at + 1;
+            return held > 0 ? stack[held - 1] : 0;
         }
 
-        private int combined(int sign, int left, int right) {
+        private static boolean isRefused(int sign, int right) {
+            return right == 0 && (sign == '/' || sign == '%');
+        }
+
+        private static int combined(int sign, int left, int right) {
             switch (sign) {
                 case '+':
                     return left + right;
@@ -779,38 +769,17 @@ public final class TallerWitness {
                     return left - right;
                 case '*':
                     return left * right;
+                case '/':
+                    return right == 0 ? 0 : left / right;
+                case '%':
+                    return right == 0 ? 0 : left % right;
                 case '<':
                     return left < right ? 1 : 0;
                 case '>':
                     return left > right ? 1 : 0;
-                case '=':
-                    return left == right ? 1 : 0;
                 default:
-                    return divided(sign, left, right);
+                    return left == right ? 1 : 0;
             }
-        }
-
-        private int divided(int sign, int left, int right) {
-            if (right == 0) {
-                refused = true;
-                return 0;
-            }
-            return sign == '/' ? left / right : left % right;
-        }
-
-        private void push(int value) {
-            if (held < STACK) {
-                stack[held] = value;
-                held++;
-            }
-        }
-
-        private int pop() {
-            if (held <= 0) {
-                return 0;
-            }
-            held--;
-            return stack[held];
         }
     }
 
@@ -823,6 +792,7 @@ public final class TallerWitness {
         private static final int MOST_OPEN = 6;
         private static final int MOST_DIGITS = 5;
         private static final int END = -1;
+        private static final String DIGITS = "0123456789";
 
         private final Tape tape;
         private final Law draft;
@@ -958,7 +928,7 @@ public final class TallerWitness {
                     readSum(open + 1);
                     pass(']');
                 }
-            } else if (isDigitNext()) {
+            } else if (isNext(DIGITS)) {
                 readNumber();
             } else if (isNext(Letters.NAMES)) {
                 draft.addSign(Law.LETTER, Letters.NAMES.indexOf((char) sign()));
@@ -970,11 +940,11 @@ public final class TallerWitness {
 
         private void readNumber() {
             int number = 0;
-            for (int i = 0; i < MOST_DIGITS && isDigitNext(); i++) {
+            for (int i = 0; i < MOST_DIGITS && isNext(DIGITS); i++) {
                 number = number * 10 + sign() - '0';
                 at++;
             }
-            if (isDigitNext()) {
+            if (isNext(DIGITS)) {
                 fail(SIXTH_DIGIT);
             }
             draft.addSign(Law.NUMBER, number);
@@ -1004,11 +974,7 @@ public final class TallerWitness {
         }
 
         private boolean isNext(String signs) {
-            return fault == 0 && at < end && signs.indexOf((char) sign()) >= 0;
-        }
-
-        private boolean isDigitNext() {
-            return sign() >= '0' && sign() <= '9';
+            return fault == 0 && at < end && signs.indexOf((char) tape.bytes[at]) >= 0;
         }
 
         private void fail(int number) {

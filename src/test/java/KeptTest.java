@@ -36,6 +36,9 @@ public final class KeptTest {
         y.dies(2);
         due.is("two have another top", y.keep(), 1);
         due.is("keeping changes nothing", y.count(8), 3);
+        TallerWitness z = three();
+        Due.lawOf(z, 1, "n(0=0)");
+        due.is("law 1 does not matter", z.keep(), 2);
     }
 
     private static void promise28() {

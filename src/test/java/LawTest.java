@@ -15,6 +15,7 @@ public final class LawTest {
         conditions();
         refused();
         clauses();
+        manyTimes();
         promise29();
         promise29Refused();
         due.end();
@@ -280,6 +281,22 @@ public final class LawTest {
         due.is("a p among others", asked("x(0=0);g9(0=0);p8(0=0);n(0=1)"), 8);
     }
 
+    private static void manyTimes() {
+        TallerWitness x = new TallerWitness();
+        x.person(0, 50, 20, 0);
+        x.person(0, 60, 20, 0);
+        for (int i = 0; i < 30; i++) {
+            due.is("law " + i, Due.lawOf(x, 0, "p1+2+3*4+5/[q-1](a=60&y=20|b=50);p3(a=60);n(1+1/0=2)"), 3);
+            due.is("what is refused leaves nothing behind", x.step(0, 1), 0);
+        }
+        due.is("a law then", Due.lawOf(x, 0, "n(1+1/0=2);p1+2+3*4(a=60&y=20|b=50)"), 2);
+        for (int i = 0; i < 60; i++) {
+            due.is("what is refused, time " + i, x.step(0, 1), 15);
+        }
+        sum("1+1*[1+1*[1+1*[1+1*[1+1*[1+1*[2+3*4]]]]]]", 20);
+        condition("6+1*1=1+1*[1+1*[1+1*[1+1*[1+1*[1+1]]]]]", true);
+    }
+
     private static void promise29() {
         TallerWitness x = new TallerWitness();
         x.person(0, 50, 20, 0);
@@ -301,6 +318,10 @@ public final class LawTest {
         due.is("all four bytes count", x.check(3), 2);
         x.feed(50, 63, 63 + (1 << 24), 0, 0);
         due.is("the highest byte, too", x.check(3), 2);
+        x.feed(50, 63, 63 | 1 << 31, 0, 0);
+        due.is("the highest bit, too", x.check(3), 2);
+        x.feed(50, 63, 63 | 1 << 29, 0, 0);
+        due.is("every bit", x.check(3), 2);
         x.feed(50, 63, 1, 1, 1);
         due.is("no more than n", x.check(2), -1);
         x.feed(1, 1, 1, 1, 1);

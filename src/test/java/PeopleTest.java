@@ -158,5 +158,8 @@ public final class PeopleTest {
         due.is("a twin of a dead one", x.top(), 3);
         x.dies(3);
         due.is("nobody lives", x.top(), -1);
+        TallerWitness y = new TallerWitness();
+        y.person(0, 1, 0, 0);
+        due.is("one inch is enough", y.top(), 0);
     }
 }

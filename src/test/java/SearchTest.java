@@ -19,6 +19,8 @@ public final class SearchTest {
         promise23();
         promise24();
         promise25();
+        sixteen();
+        sixteenDown();
         due.end();
     }
 
@@ -154,6 +156,14 @@ public final class SearchTest {
         safeIs(z, 1, 0, 2 | 4 | 16);
         Due.lawOf(z, 0, "n(q=4&b=55);p1(q<3)");
         safeIs(z, 1, 0, 16);
+        // beside 3, who has sworn: a second way by 1 and 2, or by 5 alone
+        TallerWitness v = valley(50, 55, 60, 60, 65, 60);
+        Due.lawOf(v, 0, "n(q=2&b=50);n(q=4&b=55);n(q=4&b=50)");
+        v.swear(0, 3);
+        v.swear(0, 4);
+        safeIs(v, 1, 0, 32);
+        v.dies(5);
+        safeIs(v, 1, 0, 2 | 4);
     }
 
     private static void promise17Five() {
@@ -360,6 +370,13 @@ public final class SearchTest {
         due.is("four", x.least(), 512 | 1024 | 3);
         x.found(2048);
         due.is("one that is false for sure", x.least(), 2048 | 512 | 3);
+        TallerWitness y = new TallerWitness();
+        y.person(0, 50, 20, 0);
+        for (int o = 0; o < 12; o++) {
+            y.oath(0, 0);
+            y.found(1 << o);
+            due.is("all of " + (o + 1), y.least(), (2 << o) - 1);
+        }
     }
 
     private static void promise25() {
@@ -384,5 +401,74 @@ public final class SearchTest {
         due.is("sideBySide(2)", x.sideBySide(2), -1);
         due.is("sideBySide(-1)", x.sideBySide(-1), -1);
         due.is("all goes by law 0 elsewhere", x.count(9), 4);
+    }
+
+    /** All sixteen: the owner of oath 0, one above it and one above that (4 each), the others far below. */
+    private static TallerWitness full(int owner, int middle, int top) {
+        TallerWitness x = new TallerWitness();
+        for (int p = 0; p < 16; p++) {
+            int inches = p == owner ? 50 : p == middle ? 60 : p == top ? 70 : 20;
+            x.person(p == top || p == middle ? 1 : 0, inches, 20, 4);
+        }
+        Due.lawOf(x, 0, "n(a>b+10)");
+        x.oath(owner, 0);
+        x.oath(middle, 0);
+        return x;
+    }
+
+    private static void sixteen() {
+        TallerWitness x = full(0, 14, 15);
+        chainIs(x, 8, 0, 14, 15);
+        safeIs(x, 1, -2, -2);
+        Due.lawOf(x, 0, "n(a>b+20)");
+        chainIs(x, 4, 0, 15);
+        safeIs(x, 2, 4, 1 << 15);
+        againstIs(x, 0, 1, 1, 1, 15);
+        againstIs(x, 1, 0, 1, 1, 15);
+        whomIs(x, 1 << 15 | 1 << 13, 1, 2, 1 << 15);
+        due.is("15 swears", x.swear(0, 15), 4);
+        due.is("it holds", x.holds(0), 1);
+        Due.lawOf(x, 0, "n(a>b+10)");
+        due.is("14 swears", x.swear(0, 14), 4);
+        due.is("it holds again", x.holds(0), 1);
+        due.is("it is not sure", x.sure(0), 0);
+        safeIs(x, 1, -2, -2);
+        x.dies(15);
+        due.is("14 is the top", x.sure(0), 1);
+    }
+
+    private static void sixteenDown() {
+        TallerWitness x = full(15, 1, 0);
+        chainIs(x, 8, 15, 1, 0);
+        Due.lawOf(x, 0, "n(a>b+20)");
+        chainIs(x, 4, 15, 0);
+        safeIs(x, 2, 4, 1);
+        againstIs(x, 0, 1, 1, 1, 0);
+        againstIs(x, 1, 0, 2, 1, 0);
+        whomIs(x, 15, 1, 2, 1);
+        due.is("0 swears", x.swear(0, 0), 4);
+        Due.lawOf(x, 0, "n(a>b+10)");
+        due.is("it does not hold by 15 and 0", x.holds(0), 0);
+        due.is("1 swears", x.swear(0, 1), 4);
+        due.is("from 15 to 1 to 0", x.holds(0), 1);
+        due.is("from 15 alone", x.sure(0), 0);
+        TallerWitness z = full(0, 15, 14);
+        z.swear(0, 15);
+        z.swear(0, 14);
+        due.is("it holds by 15", z.holds(0), 1);
+        due.is("15 may not count", z.sure(0), 0);
+        TallerWitness v = valley(50, 60, 60, 70, 20, 20, 20, 20, 20, 20, 20, 20, 20, 20, 20, 60);
+        safeIs(v, 1, 0, 2 | 4 | 8);
+        safeIs(v, 2, 0, 2 | 4 | 8 | 1 << 15);
+        v.dies(2);
+        safeIs(v, 2, -2, -2);
+        TallerWitness y = full(2, 0, 15);
+        y.swear(0, 0);
+        y.swear(0, 15);
+        due.is("it holds by 0", y.holds(0), 1);
+        due.is("0 may not count", y.sure(0), 0);
+        due.is("and nobody is beside it", y.safe(0, 1, 0), -2);
+        y.dies(0);
+        due.is("0 is dead", y.holds(0), 0);
     }
 }

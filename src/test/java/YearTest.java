@@ -10,6 +10,7 @@ public final class YearTest {
         promise14();
         promise14Refused();
         promise15();
+        promise15Sixteen();
         promise15Refused();
         promise19();
         promise19Draws();
@@ -40,6 +41,14 @@ public final class YearTest {
         due.is("a dead one is not older", x.count(42), 30);
         due.is("nobody grows without a law", x.count(60), 50);
         due.is("X stays", x.count(6), 1);
+        TallerWitness y = new TallerWitness();
+        for (int p = 0; p < 16; p++) {
+            y.person(2, 50, 10, 0);
+        }
+        Due.lawOf(y, 0, "x(q>4)");
+        due.is("all who die in one year", y.year(0), 11);
+        due.is("who lives of sixteen", y.count(8), 31);
+        due.is("the last of sixteen grew", y.count(75), 51);
         Due.lawOf(x, 0, "x(q=0);x(q=2);x(r=4)");
         due.is("one dies; a dead one does not again", x.year(3), 1);
         due.is("who lives", x.count(8), 2);
@@ -180,6 +189,39 @@ public final class YearTest {
         due.is("in a year from then", x.tried(1, 0), 52);
         x.dies(0);
         due.is("a dead one", x.tried(1, 0), -2);
+        TallerWitness y = new TallerWitness();
+        y.person(0, 50, 20, 0);
+        y.person(0, 60, 20, 0);
+        y.person(4, 70, 20, 1);
+        y.oath(1, 0);
+        due.is("a twin in a year", y.tried(1, 2), 60);
+        due.is("1 is the top as now", y.tried(1, -1), 1);
+        due.is("and can be at once", y.soonest(0), 0);
+        y.oath(0, 0);
+        y.swear(1, 1);
+        Due.lawOf(y, 1, "n(0=0)");
+        due.is("law 1 does not matter", y.tried(1, -1), 2);
+        y.heels(1, 3);
+        due.is("heels as they are now", y.tried(1, 1), 63);
+    }
+
+    private static void promise15Sixteen() {
+        TallerWitness x = new TallerWitness();
+        for (int p = 0; p < 15; p++) {
+            x.person(0, 50 + p, 20, 0);
+        }
+        x.keep();
+        x.person(2, 40, 18, 0);
+        x.heels(15, 3);
+        due.is("the last of sixteen in a year", x.tried(1, 15), 44);
+        due.is("in nine years", x.tried(9, 15), 44);
+        x.undo();
+        x.person(4, 40, 20, 3);
+        due.is("the last is a twin", x.tried(1, 15), 53);
+        x.keep();
+        x.years(3);
+        x.undo();
+        due.is("a twin still", x.tall(15), 53);
     }
 
     private static void promise15Refused() {
