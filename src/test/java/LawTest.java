@@ -209,6 +209,7 @@ public final class LawTest {
     private static void sums() {
         sum("10-3-2", 5);
         sum("100/5/2", 10);
+        sum("7/1", 7);
         sum("7%4*2", 6);
         sum("2*7%4", 2);
         sum("2+3*4", 14);
@@ -243,6 +244,9 @@ public final class LawTest {
         condition("0=1|0=1|0=1", false);
         condition("0=0&0=0&0=0", true);
         condition("0=0&0=0&0=1", false);
+        condition("!1<2", false);
+        condition("!2>1", false);
+        condition("!2<1&!1>2", true);
         condition("!0=1&0=1", false);
         condition("!(0=1&0=1)", true);
         condition("!0=0|0=0", true);
@@ -250,6 +254,10 @@ public final class LawTest {
         condition("!!!0=0", false);
         condition("!(0=1)", true);
         condition("!(!0=0|0=1)&(1<2&(2<3|3<2))", true);
+        condition("0=1|".repeat(38) + "0=0", true);
+        condition("0=1|".repeat(38) + "0=1", false);
+        condition("0=0&".repeat(38) + "0=0", true);
+        condition("0=0&".repeat(38) + "0=1", false);
     }
 
     private static void refused() {
