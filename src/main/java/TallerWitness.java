@@ -1074,12 +1074,14 @@ public final class TallerWitness {
             return tallest != NONE && has(reachFrom(person, among), tallest);
         }
 
-        /** Those of the OATHS that HOLD if the helpers swear to all they can. */
+        /**
+         * Those of the OATHS that HOLD if the helpers swear to all they can. Whoever is in a row of
+         * STEPS from an OATH's PERSON can swear by them, so each helper may be taken for sworn.
+         */
         int heldOaths(int helpers) {
             int held = 0;
             for (int o = 0; o < valley.oaths; o++) {
-                int sworn = withHelpers(valley.sworn[o], helpers);
-                if (comesToTop(valley.owner[o], sworn)) {
+                if (comesToTop(valley.owner[o], valley.sworn[o] | helpers)) {
                     held |= 1 << o;
                 }
             }
@@ -1102,17 +1104,6 @@ public final class TallerWitness {
                 }
             }
             return true;
-        }
-
-        private int withHelpers(int sworn, int helpers) {
-            int all = sworn;
-            for (int i = 0; i < livingCount; i++) {
-                int p = upward[i];
-                if (has(helpers, p) && (below[p] & all) != 0) {
-                    all |= 1 << p;
-                }
-            }
-            return all;
         }
 
         private void orderUpward() {

@@ -405,8 +405,21 @@ public final class EdgeLawTest {
         String text = "g1+[2*a](1<2&!(a=3|4>5));x(1=1)";
         for (int n = 1; n < text.length(); n++) {
             String cut = text.substring(0, n);
-            fault(cut, cut.equals("g1+[2*a](1<2&!(a=3|4>5))") ? 1 : -1000 - n);
+            int want = cut.equals("g1+[2*a](1<2&!(a=3|4>5))") ? 1 : -1000 - n;
+            fault(cut, want);
+            TallerWitness x = new TallerWitness();
+            Due.feedText(x, text);
+            edges.is("the first " + n + " alone", x.law(0, n), want);
         }
+        TallerWitness y = new TallerWitness();
+        Due.feedText(y, "p123456(1=1)");
+        edges.is("the sixth digit is behind the end", y.law(0, 6), -1006);
+        Due.feedText(y, "n(((((((1=1");
+        edges.is("the seventh ( is behind the end", y.law(0, 7), -1007);
+        Due.feedText(y, "x(a=0);".repeat(12) + "n");
+        edges.is("the 13th letter is behind the end", y.law(0, 84), -1084);
+        Due.feedText(y, "x(a=0);".repeat(12) + "n");
+        edges.is("the last ; is behind the end", y.law(0, 83), 12);
         fault(text, 2);
         fault("n(((((((", -5007);
         fault("n((((((", -1007);

@@ -238,6 +238,13 @@ public final class EdgeOathTest {
         edges.is("a mute one as tall is not the top", z.holds(0), 1);
         z.heels(2, 1);
         edges.is("a mute top never swears", z.holds(0), 0);
+        TallerWitness first = Edges.people(60, 50);
+        first.oath(1, 0);
+        edges.is("the top is person 0 and has not sworn", first.holds(0), 0);
+        edges.is("as bits", first.count(9), 0);
+        edges.is("as many", first.keep() + first.tried(1, -1), 0);
+        first.swear(0, 0);
+        edges.is("person 0 has sworn", first.holds(0), 1);
         TallerWitness v = new TallerWitness();
         for (int p = 0; p < 16; p++) {
             v.person(0, 40 + p, 20, 0);

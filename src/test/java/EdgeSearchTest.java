@@ -309,6 +309,12 @@ public final class EdgeSearchTest {
         Due.lawOf(z, 0, "n(q=0)");
         z.oath(15, 0);
         edges.is("the last one's", z.cut(0), 0xFFFE);
+        TallerWitness down = Edges.people(60, 50, 99);
+        Due.lawOf(down, 0, "n(q=2)");
+        down.oath(1, 0);
+        edges.is("person 0 is come to", down.cut(0), 3);
+        Due.lawOf(down, 0, "n(a>b+39)");
+        edges.is("a chain by person 0", down.cut(0) + down.soonest(0), -2);
         edges.is("nobody has sworn by asking", z.count(20), 1 << 15);
     }
 
@@ -427,13 +433,16 @@ public final class EdgeSearchTest {
 
     private static void whomRefused() {
         edges.sentence(21, "NONE: no such ones (fewer than n, dead ones).");
+        edges.refused("none of nobody", Edges::some, x -> x.whom(0, 0, 1), -1);
         int[] people = {0, 32, 33, 1 << 15, 1 << 16, 1 | 1 << 16, -1, 1 << 31, 1 | 1 << 31};
         for (int set : people) {
             edges.refused("whom(" + set + ", 1, 0)", Edges::some, x -> x.whom(set, 1, 0), -1);
+            edges.refused("whom(" + set + ", 1, 1)", Edges::some, x -> x.whom(set, 1, 1), -1);
         }
         int[] lengths = {0, -1, 5};
         for (int n : lengths) {
             edges.refused("whom(23, " + n + ", 0)", Edges::some, x -> x.whom(23, n, 0), -1);
+            edges.refused("whom(23, " + n + ", 1)", Edges::some, x -> x.whom(23, n, 1), -1);
             edges.refused("whom(255, " + n + ", 0)", Edges::full, x -> x.whom(255, n, 0), -1);
         }
         int[] whats = {-1, 2, 16};
